@@ -499,8 +499,9 @@ public final class ArrowOrders {
         }
 
         void join(int a, int b) {
-            if (hasPair(a, b) && !hasLine(a, b)) {
-                flip(a, b);
+            if (hasPair(a, b)) {
+                rows[a] |= 1 << b;
+                rows[b] |= 1 << a;
             }
         }
 
@@ -643,8 +644,9 @@ public final class ArrowOrders {
             fault = NO_FAULT;
             faultAt = NONE;
             checkForm();
-            if (fault == NO_FAULT) {
-                tellAll();
+            told.clear();
+            for (int i = 0; i < tokens && fault == NO_FAULT; i++) {
+                tell(kinds[i], values[i], starts[i]);
             }
             length = 0;
         }
@@ -795,13 +797,6 @@ public final class ArrowOrders {
         }
 
         // -- what the tokens tell --
-
-        void tellAll() {
-            told.clear();
-            for (int i = 0; i < tokens && fault == NO_FAULT; i++) {
-                tell(kinds[i], values[i], starts[i]);
-            }
-        }
 
         void tell(int kind, long value, int at) {
             switch (kind) {
@@ -1527,9 +1522,6 @@ public final class ArrowOrders {
             for (int sets = 0; sets <= MOST_POSTS; sets++) {
                 sum += choices * ways[sets];
                 choices *= colours - sets;
-                if (choices == 0) {
-                    break;
-                }
             }
             return sum;
         }

@@ -133,9 +133,28 @@ public final class ModelRuns {
         for (int i = random.nextInt(4) - 1; i > 0; i--) {
             whole = spoilt(whole);
         }
+        if (random.nextInt(25) == 0) {
+            whole = garbage();
+        }
         feedAll(whole);
         due("read() of " + whole, x.read(), m.read());
         due("place()", x.place(), m.place());
+    }
+
+    /** Signs of any sort, or tokens up to the tape's end. */
+    private String garbage() {
+        StringBuilder text = new StringBuilder();
+        int kind = random.nextInt(3);
+        int length = kind == 0 ? random.nextInt(60) : 1500 + random.nextInt(600);
+        text.append(kind == 0 ? "" : "posts a b c;");
+        while (text.length() < length) {
+            if (kind == 0) {
+                text.append((char) random.nextInt(256));
+            } else {
+                text.append(kind == 1 ? "way longname a longname ;" : "heap a  b \n \n  c   a b  c    a b;");
+            }
+        }
+        return kind == 1 ? text.toString().replace("longname", random.nextBoolean() ? "b" : "c        ") : text.toString();
     }
 
     private void feedAll(String whole) {

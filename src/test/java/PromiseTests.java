@@ -121,6 +121,8 @@ public final class PromiseTests {
         nears("4: no posts", Calls.read("posts;"));
         nears("4: blanks or not", Calls.read("\n\tposts\r a\n;way a a;cross0;  "), 0);
         nears("4: names of 8", Calls.read("posts abcdefgh abcdefgi postsway;way abcdefgi abcdefgh;"), 2, 1, 0);
+        nears("4: almost the words", Calls.read("posts hosts posta day wax leap hear gross crosz;way hosts crosz;"), 128, 0, 0, 0, 0, 0, 0, 1);
+        nears("4: the last letters", Calls.read("posts z zz az za;way z za;heap az zz;"), 8, 4, 2, 1);
         nears("4: ints of 4", Calls.read("posts a b;cross 0001 0000;"), 2, 1);
         nears("4: 8 posts", Calls.read("posts a b c d e f g h;way h a;"), 128, 0, 0, 0, 0, 0, 0, 1);
         nears("4: 400 tokens", Calls.read("posts a b;way" + " a b".repeat(197) + ";"), 2, 1);
@@ -336,6 +338,11 @@ public final class PromiseTests {
         due("11: things done anew", x.count(9), 1);
         due("11: undone anew", x.undo(), true);
         nears("11: back again", x, 2, 1, 0);
+        due("11: level, asked", x.post(1, 0), 1);
+        x.bare(0);
+        due("11: level, bare", x.post(1, 0), 0);
+        x.undo();
+        due("11: level, undone", x.post(1, 0), 1);
     }
 
     // Promise 12
@@ -603,6 +610,11 @@ public final class PromiseTests {
         for (int k = 0; k < diamond.length; k++) {
             due("25: diamond, colours(" + k + ")", Calls.read(DIAMOND).colours(k), diamond[k]);
         }
+        ArrowOrders x = Calls.read(DIAMOND);
+        due("25: asked first", x.colours(4), 48);
+        due("25: asked again", x.colours(4), 48);
+        x.other();
+        due("25: asked of another", x.colours(4), 192);
         due("25: five in a round, by 2", Calls.read(FIVE_ROUND).colours(2), 0);
         due("25: five in a round, by 3", Calls.read(FIVE_ROUND).colours(3), 30);
         due("25: no lines", Calls.read("posts a b c d e f g h;").colours(9), 43046721);
@@ -709,7 +721,9 @@ public final class PromiseTests {
         due("29: nothing can be undone", x.count(9), 0);
         due("29: undo()", x.undo(), false);
         x.line(0, 1);
+        due("29: a class, by hand", x.klass(1, 2, 0), 1);
         due("29: it stays there", x.restore(0), true);
+        due("29: a class, as held", x.klass(1, 2, 0), 2);
         nears("29: as held again", x, 2, 5, 2);
     }
 
