@@ -41,6 +41,7 @@ public final class LanguageCheck {
         }
         fields(ArrowOrders.class);
         methods(raw);
+        made(code);
         Calls.close();
     }
 
@@ -124,6 +125,18 @@ public final class LanguageCheck {
             }
         }
         holds("methods were seen", seen > 100);
+    }
+
+    /** One room for all calls: what is made is made with the object, in its fields and two constructors. */
+    private static void made(String code) {
+        for (String line : code.split("\n")) {
+            if (Pattern.compile("\\bnew\\b").matcher(line).find()) {
+                boolean field = line.matches("\\s+(private )?final \\w+(\\[\\])? \\w+ = new .*;");
+                boolean filled = line.matches("\\s+(slots|ring)\\[i\\] = new Net\\(\\);");
+                holds("made with the object: " + line.trim(), field || filled);
+            }
+        }
+        holds("no texts joined", !Pattern.compile("StringBuilder|\\+ \"|\" \\+").matcher(code).find());
     }
 
     private static void holds(String what, boolean is) {
